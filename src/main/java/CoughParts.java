@@ -853,6 +853,8 @@ public final class CoughParts {
         private int pendings;
         private int open;
         private int at;
+        private long taken;
+        private int takenPlace;
         private int fault;
         private int laterFault;
         private int laterPlace;
@@ -905,7 +907,7 @@ public final class CoughParts {
             if (!take(Scanner.MINUTE) || !takeNumber(MOST_MATTER)) {
                 return false;
             }
-            draft.matters[draft.minutes] = takenNumber();
+            draft.matters[draft.minutes] = (int) taken;
             draft.minutes++;
             return take(';');
         }
@@ -918,18 +920,18 @@ public final class CoughParts {
             if (!take(Scanner.FAMILY) || !take(Scanner.NAME)) {
                 return false;
             }
-            if (familyNamed(takenName()) != NONE) {
+            if (familyNamed(taken) != NONE) {
                 failLater(TWICE);
             }
-            names[family] = takenName();
+            names[family] = taken;
             if (!takeNumber(MOST_OF_ALL)) {
                 return false;
             }
-            draft.zeal[family] = takenNumber();
+            draft.zeal[family] = (int) taken;
             if (!takeNumber(MOST_MATTER)) {
                 return false;
             }
-            draft.love[family] = takenNumber();
+            draft.love[family] = (int) taken;
             draft.families++;
             return take(';');
         }
@@ -942,14 +944,14 @@ public final class CoughParts {
             if (!take(Scanner.LEASE) || !take(Scanner.NAME)) {
                 return false;
             }
-            int family = familyNamed(takenName());
+            int family = familyNamed(taken);
             if (family == NONE) {
                 failLater(UNNAMED);
             }
             if (!takeNumber(LAST_PART)) {
                 return false;
             }
-            int part = takenNumber();
+            int part = (int) taken;
             if (isPart(part)) {
                 if (draft.owners[part] != NOBODY) {
                     failLater(TWICE);
@@ -964,11 +966,11 @@ public final class CoughParts {
                 return false;
             }
             if (sort == Scanner.DUST) {
-                draft.dust = takenNumber();
+                draft.dust = (int) taken;
             } else if (sort == Scanner.SYRUP) {
-                draft.syrup = takenNumber();
+                draft.syrup = (int) taken;
             } else {
-                draft.seed = takenNumber();
+                draft.seed = (int) taken;
             }
             return take(';');
         }
@@ -1048,7 +1050,7 @@ public final class CoughParts {
 
         private void putUnit(int kind) {
             if (kind == Scanner.INT) {
-                draft.putCode(Laws.NUMBER, takenNumber());
+                draft.putCode(Laws.NUMBER, (int) taken);
             } else {
                 draft.putCode(Laws.VAR, kind - Scanner.FIRST_VAR);
             }
@@ -1100,6 +1102,8 @@ public final class CoughParts {
             if (at >= Scanner.MOST_TOKENS) {
                 return fail(ROOM);
             }
+            taken = scanner.values[at];
+            takenPlace = scanner.places[at];
             at++;
             return true;
         }
@@ -1108,18 +1112,10 @@ public final class CoughParts {
             if (!take(Scanner.INT)) {
                 return false;
             }
-            if (takenNumber() > most) {
+            if (taken > most) {
                 failLater(WRONG);
             }
             return true;
-        }
-
-        private int takenNumber() {
-            return (int) takenName();
-        }
-
-        private long takenName() {
-            return at > 0 ? scanner.values[at - 1] : 0;
         }
 
         private boolean fail(int sort) {
@@ -1132,7 +1128,7 @@ public final class CoughParts {
         private void failLater(int sort) {
             if (laterFault == 0) {
                 laterFault = sort;
-                laterPlace = at > 0 ? scanner.places[at - 1] : NONE;
+                laterPlace = takenPlace;
             }
         }
     }

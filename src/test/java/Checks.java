@@ -22,14 +22,6 @@ final class Checks {
         due(call, got ? 1 : 0, want ? 1 : 0);
     }
 
-    /** One call asked with each argument from 'from' on. */
-    void dueRow(String call, int[] got, int... want) {
-        due(call + " rows", got.length, want.length);
-        for (int i = 0; i < Math.min(got.length, want.length); i++) {
-            due(call + " [" + i + "]", got[i], want[i]);
-        }
-    }
-
     int wrong() {
         return wrong;
     }
