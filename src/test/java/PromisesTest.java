@@ -34,6 +34,8 @@ public final class PromisesTest {
         holdAndRestore();
         count();
         lastPart();
+        asItIsNow();
+        edges();
         CHECKS.end();
     }
 
@@ -678,5 +680,76 @@ public final class PromisesTest {
         due("coughs", x.count(5), 1023);
         due("surely", x.count(17), 1023);
         due("coughs held to 4", x.count(18), 40);
+    }
+
+    /** Each question is asked first of all behind a change, so that nothing is answered as it was before. */
+    private static void asItIsNow() {
+        CoughParts x = Checks.of(FOUR);
+        x.syrup(true);
+        due("mean", x.mean(), 256 + 64 + 64);
+        x.undo();
+        due("both", x.both(0, 1), 128);
+        x.syrup(true);
+        due("with", x.with(0, 4), 144);
+        x.undo();
+        due("buy", x.buy(0, 1), 896);
+        x.syrup(true);
+        due("richest", x.richest(1), 2560);
+        x.undo();
+        due("mode", x.mode(1, 1), 128);
+        x.syrup(true);
+        due("odds", x.odds(1), 144);
+        x.undo();
+        due("falls", x.falls(3, 0), 64);
+        x.syrup(true);
+        due("value", x.value(0, 0), 2560);
+        x.undo();
+        due("cure", Checks.of(FOUR + "cures = 8; syrup 1;").cure(), 6);
+        x.dust(true);
+        due("cover", x.cover(5, 1), 15);
+        x.undo();
+        due("when", x.when(0, 0), 4);
+        x.change(0, 1);
+        due("sure", x.sure(0, 0), 1);
+        due("likely", x.likely(0), 8);
+    }
+
+    private static void edges() {
+        CoughParts none = new CoughParts();
+        due("odds(0) of nothing", none.odds(0), 1);
+        due("odds(1) of nothing", none.odds(1), 0);
+        due("with nothing", none.with(3, 0), 1);
+        none.weeks(1);
+        due("parts of nothing", none.count(6), 0);
+        CoughParts two = Checks.of("minute 1; minute 3; coughs = 2; family a 0 0; family b 0 0; family c 0 0; lease b 0; rents = which;");
+        due("seed 0 if not told", two.minute(0, 2) * 10 + two.minute(1, 2), 1);
+        due("matters", two.count(15), 10);
+        due("families without a lease", two.count(19), 5);
+        two.weeks(1);
+        due("b gained", two.family(1, 3), 2);
+        due("a gained", two.family(0, 3), 0);
+        due("c paid", two.family(2, 4), 2);
+        due("one more gained than paid", two.year(1, 0, 1), 1);
+        two.hold(0);
+        due("slot 0", two.restore(0), true);
+        Checks.read(two, "minute 1; minute 1; family a 0 0; coughs = 4;");
+        due("slot 0 is empty then", two.restore(0), false);
+        due("slots", two.count(11), 0);
+        due("of as many the least bits", two.cover(1, 1), 1);
+        due("buys part 0", two.buy(0, 0), 0);
+        Checks.read(two, "minute 1; minute 1; coughs = 0;");
+        due("no cough at all", two.with(1, 0), 16);
+        due("all in part 0", two.with(0, 2), 16);
+        CoughParts game = Checks.of("minute 0; minute 0; family a 0 0; family b 0 0; lease a 1; lease b 0; dust 8; coughs = dusty - 8;");
+        due("dust is 9 at most", game.game(0, 1, 2), 4);
+        due("syrup is not asked for", game.game(0, 1, 1), 0);
+        CoughParts ten = Checks.of("minute 0;".repeat(10) + "coughs = if now < 6 then 4 else 2;");
+        due("both in part 7, or no cough", ten.both(7, 8), 3 << 18);
+        due("mode of the last minute", ten.mode(9, 0), 7);
+        due("its cases", ten.mode(9, 1), 7 << 17);
+        due("mode of the one behind the sure ones", ten.mode(6, 0), 6);
+        due("mode of the first minute", ten.mode(0, 0), 0);
+        due("sets", ten.when(0, 0), 16);
+        due("ask", ten.ask(0), 6);
     }
 }
