@@ -14,7 +14,8 @@ public final class CoughParts {
     private static final int LAST_PART = PARTS - 1;
     private static final int ALL_PARTS = (1 << PARTS) - 1;
     private static final int MOST_MATTER = 5;
-    private static final int MOST_OF_ALL = 9;
+    // ZEAL, DUST and SYRUP all go from 0 to this.
+    private static final int TOP_OF_SCALE = 9;
     private static final int MOST_WEEKS = 40;
     private static final int MOST_SEEDS = 20;
     private static final int MOST_CHOICE = 3;
@@ -497,7 +498,7 @@ public final class CoughParts {
 
     private boolean give(int cell, boolean more) {
         int then = state.cells[cell] + (more ? 1 : -1);
-        if (!within(then, 0, MOST_OF_ALL)) {
+        if (!within(then, 0, TOP_OF_SCALE)) {
             return false;
         }
         past.keep(state);
@@ -524,7 +525,7 @@ public final class CoughParts {
     }
 
     private int gainByOneMore(int family, int cell) {
-        if (state.cells[cell] >= MOST_OF_ALL) {
+        if (state.cells[cell] >= TOP_OF_SCALE) {
             return 0;
         }
         trial.copyFrom(state);
@@ -533,7 +534,7 @@ public final class CoughParts {
     }
 
     private int choicesOf(int cell) {
-        return Math.min(MOST_CHOICE, MOST_OF_ALL - state.cells[cell]);
+        return Math.min(MOST_CHOICE, TOP_OF_SCALE - state.cells[cell]);
     }
 
     private int answerTo(int moreDust, int family) {
@@ -924,7 +925,7 @@ public final class CoughParts {
                 failLater(TWICE);
             }
             names[family] = taken;
-            if (!takeNumber(MOST_OF_ALL)) {
+            if (!takeNumber(TOP_OF_SCALE)) {
                 return false;
             }
             draft.zeal[family] = (int) taken;
@@ -962,7 +963,7 @@ public final class CoughParts {
         }
 
         private boolean readSetting(int sort) {
-            if (!take(sort) || !takeNumber(sort == Scanner.SEED ? MOST_SEED : MOST_OF_ALL)) {
+            if (!take(sort) || !takeNumber(sort == Scanner.SEED ? MOST_SEED : TOP_OF_SCALE)) {
                 return false;
             }
             if (sort == Scanner.DUST) {

@@ -84,7 +84,9 @@ public final class PromisesTest {
         due("1979 and 20", x.feed(0, 0, 0, 0, 0), 1999);
         due("1999 and 20", x.feed(0, 0, 0, 0, 0), -1);
         due("nothing came", x.count(8), 1999);
-        x.back(19);
+        x.back(18);
+        due("1981 and 20", x.feed(0, 0, 0, 0, 0), -1);
+        x.back(1);
         due("1980 and 20", x.feed(0, 0, 0, 0, -1), 2000);
         due("2000 and 20", x.feed(0, 0, 0, 0, 0), -1);
         due("a byte of 0", x.read(), 1);

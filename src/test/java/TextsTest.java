@@ -200,6 +200,8 @@ public final class TextsTest {
         law(7, "if 2 < 1 then 5 else if 3 < 1 then 6 else if 1 < 3 then 7 else if 1 < 3 then 8 else 9");
         law(9, "if 2 < 1 then 5 else if 3 < 1 then 6 else if 4 < 3 then 7 else if 5 < 3 then 8 else 9");
         law(12, "1 + 2 - 3 * 4 / 5 + 11");
+        CoughParts x = Checks.of("family f 1 1; cures = 1" + "+1-1".repeat(97) + "+1;");
+        CHECKS.due("a law of 394 tokens", x.family(0, 6), 2);
     }
 
     private static void lawsLookOnlyWhereTheyGo() {
