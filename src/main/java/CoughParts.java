@@ -1307,8 +1307,9 @@ public final class CoughParts {
         static final int WHICH = 8;
         static final int VARS = 9;
 
-        // At each of seven levels of brackets a sum and a product may wait for the next unit.
-        private static final int MOST_STACK = 16;
+        // At each level of brackets a sum and a product may wait, then comes a unit; and all of this is
+        // on top of the first side of an if while its second side is looked at.
+        private static final int MOST_STACK = 2 * (Reader.MOST_OPEN + 1) + 1 + 1;
 
         private final Text text;
         private final int[] vars = new int[VARS];
@@ -1356,15 +1357,16 @@ public final class CoughParts {
         private int resultOf(int law) {
             int at = text.starts[law];
             int top = 0;
-            for (int steps = 0; steps < Text.MOST_CODES && at < text.codes && top < MOST_STACK; steps++) {
+            for (int steps = 0; steps < Text.MOST_CODES && at < text.codes; steps++) {
                 int operation = text.operations[at];
                 int number = text.numbers[at];
                 at++;
-                if (operation == NUMBER) {
-                    stack[top] = number;
-                    top++;
-                } else if (operation == VAR) {
-                    stack[top] = 0 <= number && number < VARS ? vars[number] : 0;
+                boolean isUnit = operation == NUMBER || operation == VAR;
+                if (isUnit && top >= MOST_STACK) {
+                    return 0;
+                }
+                if (isUnit) {
+                    stack[top] = operation == VAR && 0 <= number && number < VARS ? vars[number] : number;
                     top++;
                 } else if (operation == ANSWER) {
                     return top > 0 ? stack[top - 1] : 0;

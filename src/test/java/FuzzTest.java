@@ -173,11 +173,29 @@ public final class FuzzTest {
     }
 
     private String sum(int depth) {
+        if (depth == 0 && random.nextInt(12) == 0) {
+            return deepSum();
+        }
         StringBuilder sum = new StringBuilder(unit(depth));
         for (int i = random.nextInt(depth > 1 ? 2 : 3); i > 0; i--) {
             sum.append(blank()).append(pick("+", "-", "*", "/")).append(blank()).append(unit(depth));
         }
         return sum.toString();
+    }
+
+    /** Brackets within one another with sums and products that wait at each level. */
+    private String deepSum() {
+        String sum = chain();
+        int levels = rarely() ? 7 : 3 + random.nextInt(4);
+        for (int i = 0; i < levels; i++) {
+            sum = pick("1+1*", "9-2*", "now+3/", "part-zeal/", "1-", "2*", "", "week+sweet-dusty*")
+                    + "(" + sum + ")" + pick("", "", "", "+1", "*2-now");
+        }
+        return sum;
+    }
+
+    private String chain() {
+        return pick("1+1*1", "9-now/2", "matter*love-3*which", "week", "5", "zeal+2/dusty");
     }
 
     private String unit(int depth) {

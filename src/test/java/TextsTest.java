@@ -13,6 +13,8 @@ public final class TextsTest {
         laws();
         lawsLookOnlyWhereTheyGo();
         lawsOfEachSort();
+        deepestLaws();
+        longestLaws();
         CHECKS.end();
     }
 
@@ -246,5 +248,61 @@ public final class TextsTest {
         Checks.read(x, "minute 1; coughs = 3;");
         Checks.read(x, "minute 1;");
         CHECKS.due("a law of the text ahead is gone", x.minute(0, 1), 1);
+    }
+
+    // ---- laws as deep and as long as they may be
+
+    private static void deepestLaws() {
+        String[] eights = {deepest("1+1*", "1+1*1", ""), deepest("9-1*", "9-1*1", ""), deepest("7+9/", "7+9/9", ""),
+            deepest("1+1*", "2-2/2+1*1", "*1/1+1-1"), deepest("0+1*", "8", ""), deepest("", "2", "*1+1"),
+            deepest("zeal-2+1*", "zeal-1*1", "")};
+        for (String eight : eights) {
+            for (int ifs = 0; ifs < 4; ifs++) {
+                inEveryPlace("if 1<0 then 9 else ".repeat(ifs), eight);
+            }
+            everyLaw(8, "if 1<0 then 9 else ".repeat(4) + eight);
+        }
+        String eight = eights[0];
+        everyLaw(8, "if " + eight + "<" + eight + " then " + eight + "-8 else if 1+" + eight + "<" + eight + " then "
+                + eight + "-8 else " + eight);
+    }
+
+    /** Six brackets within one another, at each level with what stands ahead of the bracket and behind it. */
+    private static String deepest(String ahead, String inmost, String behind) {
+        return (ahead + "(").repeat(6) + inmost + (")" + behind).repeat(6);
+    }
+
+    private static void inEveryPlace(String ifs, String eight) {
+        everyLaw(8, ifs + eight);
+        everyLaw(2, ifs + "if " + eight + "<9 then 2 else 3");
+        everyLaw(3, ifs + "if " + eight + "<8 then 2 else 3");
+        everyLaw(2, ifs + "if 7<" + eight + " then 2 else 3");
+        everyLaw(3, ifs + "if 8<" + eight + " then 2 else 3");
+        everyLaw(2, ifs + "if " + eight + "<1+" + eight + " then 2 else 3");
+        everyLaw(3, ifs + "if " + eight + "<" + eight + " then 2 else 3");
+        everyLaw(8, ifs + "if 0<1 then " + eight + " else 3");
+        everyLaw(8, ifs + "if 1<0 then 3 else " + eight);
+    }
+
+    private static void everyLaw(int want, String law) {
+        CoughParts x = Checks.of("family f 3 0;lease f 0;minute 0;worth=" + law + ";");
+        CHECKS.due("worth=" + law, x.worth(0, 0, 0), want);
+        CHECKS.due("have by worth=" + law, x.have(0), 4 * want);
+        x = Checks.of("family f 3 0;rents=" + law + ";");
+        CHECKS.due("rents=" + law, x.family(0, 5), want);
+        x = Checks.of("family f 3 0;cures=" + law + ";");
+        CHECKS.due("cures=" + law, x.family(0, 6), want);
+        if (!law.contains("zeal")) {
+            x = Checks.of("minute 0;coughs=" + law + ";");
+            CHECKS.due("coughs=" + law, x.minute(0, 1), Math.min(4, want));
+        }
+    }
+
+    private static void longestLaws() {
+        String one = "1" + "+1-1".repeat(4);
+        String longest = ("if " + one + "<" + one + " then 2 else ").repeat(4) + one;
+        everyLaw(1, longest + "+1-1".repeat(50));
+        everyLaw(1, "1" + "*7/7".repeat(96));
+        everyLaw(1, "1" + "/1-0*9+0".repeat(48));
     }
 }
