@@ -183,19 +183,20 @@ public final class FuzzTest {
         return sum.toString();
     }
 
-    /** Brackets within one another with sums and products that wait at each level. */
+    /** Brackets within one another; at each level a sum and a product wait, or now and then less. */
     private String deepSum() {
-        String sum = chain();
-        int levels = rarely() ? 7 : 3 + random.nextInt(4);
+        boolean most = random.nextBoolean();
+        int levels = rarely() ? 7 : most ? 6 : 3 + random.nextInt(4);
+        String sum = pick("1+1*1", "9-now/2", "matter*love-3*which", "week", "5", "zeal+2/dusty");
         for (int i = 0; i < levels; i++) {
-            sum = pick("1+1*", "9-2*", "now+3/", "part-zeal/", "1-", "2*", "", "week+sweet-dusty*")
-                    + "(" + sum + ")" + pick("", "", "", "+1", "*2-now");
+            sum = (most || random.nextBoolean() ? waiting() : pick("1-", "2*", "")) + "(" + sum + ")"
+                    + pick("", "", "", "+1", "*2-now");
         }
         return sum;
     }
 
-    private String chain() {
-        return pick("1+1*1", "9-now/2", "matter*love-3*which", "week", "5", "zeal+2/dusty");
+    private String waiting() {
+        return pick("1+1*", "9-2*", "now+3/", "part-zeal/", "2+1*", "week+sweet-dusty*");
     }
 
     private String unit(int depth) {
