@@ -304,5 +304,9 @@ public final class TextsTest {
         everyLaw(1, longest + "+1-1".repeat(50));
         everyLaw(1, "1" + "*7/7".repeat(96));
         everyLaw(1, "1" + "/1-0*9+0".repeat(48));
+        CoughParts x = Checks.of("minute 0;coughs=2" + "+1-1".repeat(98) + ";");
+        CHECKS.due("a law of 396 tokens", x.minute(0, 1), 2);
+        x = Checks.of("minute 0;coughs=if 2" + "+1-1".repeat(96) + "<3 then 2 else 1;");
+        CHECKS.due("an if of 391 tokens", x.minute(0, 1), 2);
     }
 }
