@@ -22,6 +22,25 @@ final class Checks {
         due(call, got ? 1 : 0, want ? 1 : 0);
     }
 
+    /** The fault stands where the mark ~ stands in the text (which is not part of it). */
+    void fault(int sort, String marked) {
+        faultAt(sort, marked.indexOf('~'), marked.replace("~", ""));
+    }
+
+    void faultAt(int sort, int place, String text) {
+        CoughParts x = new CoughParts();
+        due("read() of '" + shortened(text) + "'", read(x, text), sort);
+        due("place() in '" + shortened(text) + "'", x.place(), place);
+    }
+
+    void good(String text) {
+        faultAt(0, CoughParts.NONE, text);
+    }
+
+    private static String shortened(String text) {
+        return text.length() <= 200 ? text : text.substring(0, 90) + " .. " + text.substring(text.length() - 90);
+    }
+
     int wrong() {
         return wrong;
     }
@@ -55,6 +74,16 @@ final class Checks {
             throw new IllegalStateException("fault " + fault + " at " + x.place() + " of: " + text);
         }
         return x;
+    }
+
+    /** The document's LOT, by long numbers that are cut off to 32 bits. */
+    static int lot(int n, int seed, int which) {
+        long h = seed;
+        for (long it : new long[] {167, which}) {
+            h = (h ^ it) * 1103515245L + 12345L & 0xffffffffL;
+            h ^= h >> 15;
+        }
+        return (int) ((h >> 1) % n);
     }
 
     static int four(byte[] bytes, int from) {

@@ -10,16 +10,22 @@ public final class FuzzTest {
     private static final int[] EDGES = {Integer.MIN_VALUE, -100, -3, -2, -1, 0, 1, 2, 3, 4, 5, 6, 7, 8, 9, 10, 11,
         19, 20, 21, 39, 40, 41, 255, 256, 1024, 2000, Integer.MAX_VALUE};
 
+    /** Nothing is promised beyond these. */
+    private static final int MOST_CALLS = 512;
+    private static final int CALLS_TO_LOOK = 22 + 2 * 11 + 9 + 8 * 6;
+
     private final Random random;
     private final Checks checks;
     private final int run;
-    private CoughParts x = new CoughParts();
-    private Model model = new Model();
+    private CoughParts x;
+    private Model model;
+    private int calls;
 
     private FuzzTest(int run, Checks checks) {
         this.run = run;
         this.checks = checks;
         this.random = new Random(run);
+        renew();
     }
 
     public static void main(String[] args) throws ReflectiveOperationException {
@@ -37,14 +43,27 @@ public final class FuzzTest {
         checks.end();
     }
 
+    private void renew() {
+        x = new CoughParts();
+        model = new Model();
+        calls = 0;
+    }
+
     // ---- texts with and without faults
 
     private void readTexts() throws ReflectiveOperationException {
         for (int i = 0; i < 40; i++) {
             String text = random.nextInt(4) == 0 ? soup() : spoilt(text(random.nextInt(11)));
+            if (calls + callsToRead(text) + CALLS_TO_LOOK > MOST_CALLS) {
+                renew();
+            }
             readBoth(text);
             lookAtAll();
         }
+    }
+
+    private static int callsToRead(String text) {
+        return Math.min(100, text.length() / 20 + 1) + 3;
     }
 
     private long readBoth(String text) throws ReflectiveOperationException {
@@ -68,12 +87,16 @@ public final class FuzzTest {
         for (int what = 0; what <= 21; what++) {
             call("count", what);
         }
-        for (int i = 0; i <= 10; i++) {
-            call("minute", i, 0);
-            call("minute", i, 1);
-            call("lease", i);
+        for (int minute = 0; minute <= model.count(0); minute++) {
+            call("minute", minute, 0);
+            call("minute", minute, 1);
+        }
+        for (int part = 0; part < 9; part++) {
+            call("lease", part);
+        }
+        for (int family = 0; family <= model.count(1); family++) {
             for (int what = 0; what < 8; what++) {
-                call("family", i, what);
+                call("family", family, what);
             }
         }
     }
@@ -240,10 +263,10 @@ public final class FuzzTest {
         "tell MWB", "tell MWB", "forget", "when KW", "when KW", "ask K", "hold L", "restore L", "count C", "count C"};
 
     private void goThroughCalls() throws ReflectiveOperationException {
-        readGood();
-        for (int i = 0; i < 300; i++) {
+        readBoth(goodText());
+        while (calls + CALLS_TO_LOOK < MOST_CALLS) {
             if (random.nextInt(200) == 0) {
-                readGood();
+                readAnother();
             }
             String[] words = CALLS[random.nextInt(CALLS.length)].split(" ");
             if (words[0].equals("forget") && random.nextInt(4) > 0) {
@@ -259,11 +282,24 @@ public final class FuzzTest {
         lookAtAll();
     }
 
-    private void readGood() throws ReflectiveOperationException {
-        int minutes = random.nextInt(20) == 0 ? 7 + random.nextInt(4) : random.nextInt(7);
-        for (int i = 0; i < 20 && readBoth(text(minutes)) != 0; i++) {
-            call("place");
+    /** On an object with a past, mostly a good text. */
+    private void readAnother() throws ReflectiveOperationException {
+        String text = random.nextInt(3) == 0 ? spoilt(text(3)) : goodText();
+        if (calls + callsToRead(text) + CALLS_TO_LOOK < MOST_CALLS) {
+            readBoth(text);
         }
+    }
+
+    /** A text without a FAULT, as the model says. */
+    private String goodText() {
+        int minutes = random.nextInt(20) == 0 ? 7 + random.nextInt(4) : random.nextInt(7);
+        for (int i = 0; i < 50; i++) {
+            String text = text(minutes);
+            if (Model.faultOf(text.getBytes(StandardCharsets.ISO_8859_1)) == 0) {
+                return text;
+            }
+        }
+        return "";
     }
 
     private Object argument(char kind) {
@@ -293,6 +329,7 @@ public final class FuzzTest {
         for (int i = 0; i < values.length; i++) {
             types[i] = values[i] instanceof Boolean ? boolean.class : int.class;
         }
+        calls++;
         long got = asLong(method(CoughParts.class, name, types).invoke(x, values));
         long want = asLong(method(Model.class, name, types).invoke(model, values));
         checks.due("run " + run + " " + name + Arrays.toString(values), got, want);

@@ -571,6 +571,13 @@ final class Model {
         return 0;
     }
 
+    /** The FAULT that a text would have, without an object that is asked for it. */
+    static int faultOf(byte[] text) {
+        Model model = new Model();
+        model.tape = text;
+        return model.read();
+    }
+
     public int place() {
         return place;
     }

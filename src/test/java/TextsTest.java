@@ -18,17 +18,12 @@ public final class TextsTest {
         CHECKS.end();
     }
 
-    /** The fault stands where the mark ~ stands in the text (which is not part of it). */
     private static void fault(int sort, String marked) {
-        int place = marked.indexOf('~');
-        CoughParts x = new CoughParts();
-        String text = marked.replace("~", "");
-        CHECKS.due("read " + text, Checks.read(x, text), sort);
-        CHECKS.due("place in " + text, x.place(), place);
+        CHECKS.fault(sort, marked);
     }
 
     private static void good(String text) {
-        fault(0, text);
+        CHECKS.good(text);
     }
 
     private static void tokens() {
