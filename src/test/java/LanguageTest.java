@@ -28,9 +28,15 @@ public final class LanguageTest {
             int year(int,int,int)|int tell(int,int,boolean)|int forget()|int when(int,int)|int ask(int)
             boolean hold(int)|boolean restore(int)|int count(int)""";
 
+    private static final Set<String> CONSTANTS = Set.of("int", "long", "boolean", "char", "String");
+
     public static void main(String[] args) throws IOException {
         face();
         namesOfOthers();
+        shapes(CoughParts.class);
+        for (Class<?> inside : CoughParts.class.getDeclaredClasses()) {
+            shapes(inside);
+        }
         words(Files.readString(Path.of(args.length > 0 ? args[0] : "src/main/java/CoughParts.java")));
         CHECKS.end();
     }
@@ -79,6 +85,23 @@ public final class LanguageTest {
         }
         for (Method method : CoughParts.class.getDeclaredMethods()) {
             due(method + " has a name of its own", !isPrivate(method) || !faceNames.contains(method.getName()));
+        }
+    }
+
+    /** Rules 5 and 11: constants alone are static, seven parameters, some twenty fields. */
+    private static void shapes(Class<?> some) {
+        int fields = 0;
+        for (Field field : some.getDeclaredFields()) {
+            if (Modifier.isStatic(field.getModifiers())) {
+                due(field + " is final", Modifier.isFinal(field.getModifiers()));
+                due(field + " is a constant", CONSTANTS.contains(field.getType().getSimpleName()));
+            } else {
+                fields++;
+            }
+        }
+        due(some + " has twenty fields at most", fields <= 20);
+        for (Method method : some.getDeclaredMethods()) {
+            due(method + " has seven parameters at most", method.getParameterCount() <= 7);
         }
     }
 
